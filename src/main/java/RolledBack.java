@@ -93,9 +93,9 @@ public final class RolledBack {
     private final Image[] images = new Image[IMAGES];
     private final State[] spare = new State[FEW + 1];
     private final Pen pen = new Pen();
-    private final Steps steps = new Steps(pen);
+    private final Steps steps = new Steps();
     private final byte[] tape = new byte[TAPE];
-    private final Reader reader = new Reader(tape);
+    private final Reader reader = new Reader();
     private final int[] book = new int[ROW];
     private final byte[] copies = new byte[SIDE];
     private final int[] refused = new int[4];
@@ -135,7 +135,7 @@ public final class RolledBack {
 
     public int store(int n) throws IllegalArgumentException {
         testLength(n, TAPE);
-        int fault = reader.readStore(n);
+        int fault = reader.readStore(tape, n);
         textRead(fault);
         if (fault != 0) {
             return fault - FAULT_LESS;
@@ -171,7 +171,7 @@ public final class RolledBack {
             textRead(0);
             return NO_ROOM;
         }
-        int fault = reader.readWork(n);
+        int fault = reader.readWork(tape, n);
         textRead(fault);
         if (fault != 0) {
             return fault - FAULT_LESS;
@@ -207,7 +207,7 @@ public final class RolledBack {
 
     public int book(int n) throws IllegalArgumentException {
         testLength(n, BOOK_BYTES);
-        int fault = reader.readBook(n);
+        int fault = reader.readBook(tape, n);
         textRead(fault);
         if (fault != 0) {
             return fault - FAULT_LESS;
@@ -1110,11 +1110,7 @@ public final class RolledBack {
 
     /** The STEPS; each tells whether it was done, and changes nothing if not. */
     private static final class Steps {
-        private final Pen pen;
-
-        Steps(Pen pen) {
-            this.pen = pen;
-        }
+        private final Pen pen = new Pen();
 
         boolean take(State s, int op, int a, int b, int c) {
             if (op <= SWEEP && (s.unsafe >= FULL_CHANGES || s.waiting >= FULL_WAITING)) {
@@ -1615,18 +1611,15 @@ public final class RolledBack {
         int lineCount;
         int place;
         private int fault;
-        private final byte[] text;
+        private final byte[] text = new byte[TAPE];
         private int length;
         private int next;
         private final int[] open = new int[AGAINS];
         private int opened;
 
-        Reader(byte[] text) {
-            this.text = text;
-        }
-
-        private void begin(int n) {
-            length = Math.min(n, text.length);
+        private void begin(byte[] bytes, int n) {
+            length = Math.max(0, Math.min(n, Math.min(bytes.length, TAPE)));
+            System.arraycopy(bytes, 0, text, 0, length);
             next = 0;
             fault = 0;
             place = NONE;
@@ -1634,8 +1627,8 @@ public final class RolledBack {
             script.clear();
         }
 
-        int readStore(int n) {
-            begin(n);
+        int readStore(byte[] bytes, int n) {
+            begin(bytes, n);
             int clauses = 0;
             while (fault == 0 && !atEnd() && clauses <= CLAUSES) {
                 int start = next;
@@ -1652,8 +1645,8 @@ public final class RolledBack {
             return fault;
         }
 
-        int readWork(int n) {
-            begin(n);
+        int readWork(byte[] bytes, int n) {
+            begin(bytes, n);
             for (int k = 0; k <= length && fault == 0 && !atEnd(); k++) {
                 if (opened > 0 && text[next] == ']') {
                     next++;
@@ -1690,8 +1683,8 @@ public final class RolledBack {
             }
         }
 
-        int readBook(int n) {
-            begin(n);
+        int readBook(byte[] bytes, int n) {
+            begin(bytes, n);
             lineCount = 0;
             for (int k = 0; k < ROW; k++) {
                 lines[k] = NONE;

@@ -6,7 +6,7 @@ import java.util.Random;
 public final class ModelTest {
     private static final String[] STEPS = {"make", "dir", "link", "grow", "put", "cut", "drop", "write",
         "sync", "crash", "sweep", "again"};
-    /** How often each step is drawn, by moods: mixed, trees, piling up, letting go, crashing, full. */
+    /** How often each step is drawn, by moods: mixed, trees, piling up, letting go, crashing, full, few blocks. */
     private static final int[][] MOODS = {
         {6, 4, 4, 6, 3, 3, 5, 8, 2, 1, 1, 1},
         {4, 9, 2, 3, 1, 1, 5, 6, 2, 1, 1, 1},
@@ -14,6 +14,7 @@ public final class ModelTest {
         {3, 2, 2, 4, 1, 6, 9, 9, 1, 0, 1, 1},
         {5, 3, 2, 5, 1, 2, 5, 9, 1, 4, 4, 1},
         {2, 2, 6, 9, 9, 5, 7, 2, 1, 0, 1, 3},
+        {3, 2, 1, 9, 12, 9, 3, 9, 0, 0, 1, 1},
     };
     private static final int CALLS = 512;
 
@@ -29,8 +30,8 @@ public final class ModelTest {
     private ModelTest(long seed) {
         random = new Random(seed);
         names = 2 + random.nextInt(14);
-        nodes = 2 + random.nextInt(11);
         mood = random.nextInt(MOODS.length);
+        nodes = 2 + random.nextInt(mood == 6 ? 2 : 11);
     }
 
     private int below(int n) {
@@ -73,9 +74,9 @@ public final class ModelTest {
             case "link":
                 return "link " + d + " " + n + " " + m;
             case "grow":
-                return "grow " + m + " " + v;
+                return "grow " + m + " " + (mood == 6 ? below(2) : v);
             case "put":
-                return "put " + m + " " + below(32) + " " + v;
+                return "put " + m + " " + (mood == 6 ? below(2) * 16 : below(32)) + " " + (mood == 6 ? below(2) : v);
             case "cut":
                 return "cut " + m;
             case "write":
@@ -123,7 +124,42 @@ public final class ModelTest {
         }
     }
 
+    /** Directories that are full, or nearly: so that a second block is taken, and much can be let go of. */
+    private String fullStore() {
+        StringBuilder all = new StringBuilder();
+        int directories = below(4);
+        for (int d = 1; d <= directories; d++) {
+            all.append("dir ").append(below(d)).append(' ').append(50 + d).append(';');
+        }
+        int files = 1 + below(5);
+        for (int k = 1; k <= files; k++) {
+            all.append("make 0 ").append(60 + k).append(';');
+        }
+        for (int k = 0; k < 8 * files && k < 45; k++) {
+            all.append("link ").append(below(directories + 1)).append(' ').append(1 + k).append(' ')
+                .append(directories + 1 + k % files).append(';');
+            if (k % 9 == 8) {
+                all.append("grow ").append(below(directories + 1)).append(" 0;");
+            }
+        }
+        return fitted(all.toString(), 600);
+    }
+
+    /** Drops of what such a store has, one behind the other. */
+    private String drops() {
+        StringBuilder all = new StringBuilder();
+        int from = below(40);
+        int d = below(4);
+        for (int k = 0; k < 16; k++) {
+            all.append("drop ").append(below(3) == 0 ? below(4) : d).append(' ').append(1 + (from + k) % 45).append(';');
+        }
+        return fitted(all.toString(), 150);
+    }
+
     private String clauses() {
+        if (below(3) == 0) {
+            return fullStore();
+        }
         StringBuilder all = new StringBuilder();
         int many = below(6) == 0 ? below(64) : below(16);
         for (int k = 0; k < many; k++) {
@@ -168,24 +204,36 @@ public final class ModelTest {
         call("fault");
     }
 
+    /** Mostly one that is there; now and then one beside it, or far away. */
+    private int what(int most) {
+        switch (below(90)) {
+            case 0:
+                return Integer.MIN_VALUE + below(2);
+            case 1:
+                return Integer.MAX_VALUE - below(2);
+            case 2:
+                return -1 - below(3);
+            case 3:
+                return most + 1 + below(3);
+            default:
+                return below(most + 1);
+        }
+    }
+
     private int where() {
-        return below(30) == 0 ? below(7) - 3 : below(2);
+        return what(1);
     }
 
     private int node() {
-        return below(30) == 0 ? below(40) - 20 : below(12);
+        return what(11);
     }
 
     private int block() {
-        return below(30) == 0 ? below(60) - 30 : below(16);
+        return what(15);
     }
 
     private int place() {
-        return below(30) == 0 ? below(60) - 30 : below(16);
-    }
-
-    private int what(int most) {
-        return below(30) == 0 ? below(30) - 15 : below(most + 1);
+        return what(15);
     }
 
     private void ask(int which) {
@@ -264,12 +312,21 @@ public final class ModelTest {
     }
 
     private void run() {
+        int start = below(6);
+        if (start < 2) {
+            text("store", fullStore(), 601);
+        } else if (start == 2) {
+            // The root is full, and a block has bytes of old: a directory's second block makes a ring.
+            text("store", "make 0 91;link 0 92 1;link 0 93 1;link 0 94 1;link 0 95 1;link 0 96 1;dir 0 97;dir 0 98;"
+                + "grow 1 9;grow 1 9;", 601);
+            text("work", "cut 1;cut 1;write 1;write 0;grow 0 0;" + fitted(steps(6, 0), 100), 151);
+        }
         while (told.size() < CALLS && !wrong) {
             int drawn = below(100);
             if (drawn < 3) {
                 text("store", clauses(), 601);
             } else if (drawn < 30) {
-                text("work", fitted(steps(below(20), 0), 150), 151);
+                text("work", below(6) == 0 ? drops() : fitted(steps(below(20), 0), 150), 151);
             } else if (drawn < 35) {
                 text("book", fitted(lines(), 60), 61);
             } else if (drawn < 39) {
