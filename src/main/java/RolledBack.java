@@ -16,7 +16,8 @@ public final class RolledBack {
     private static final int SIDE = BLOCKS * ROW;
     private static final int WIPE = 16;
     private static final int MAP = 0;
-    private static final int FIRST_FREE = 4;
+    /** The first block that is no map and holds no nodes. */
+    private static final int ROOT_BLOCK = 4;
 
     private static final int NODES = 12;
     private static final int NODES_OF_BLOCK = 4;
@@ -739,12 +740,12 @@ public final class RolledBack {
             for (int k = 0; k < bytes.length; k++) {
                 bytes[k] = 0;
             }
-            for (int k = 0; k <= FIRST_FREE; k++) {
+            for (int k = 0; k <= ROOT_BLOCK; k++) {
                 bytes[k] = 1;
             }
             bytes[ROW + LINKS] = 1;
             bytes[ROW + TAG] = DIRECTORY;
-            bytes[ROW + FIRST] = FIRST_FREE;
+            bytes[ROW + FIRST] = ROOT_BLOCK;
             allOnDisk();
             forgetCounts();
         }
@@ -1289,7 +1290,7 @@ public final class RolledBack {
                 }
             }
             int pointed = Tree.pointedBlocks(s, MEMORY, Tree.linkedNodes(s, MEMORY));
-            for (int block = FIRST_FREE; block < s.size; block++) {
+            for (int block = ROOT_BLOCK; block < s.size; block++) {
                 if (s.at(MEMORY, MAP, block) != 0 && (pointed >> block & 1) == 0
                         && s.countPutOff(BLOCK_MARK + block) == 0) {
                     return BLOCK_MARK + block;
@@ -1322,7 +1323,7 @@ public final class RolledBack {
         }
 
         private int freeBlock(State s) {
-            for (int block = FIRST_FREE; block < s.size; block++) {
+            for (int block = ROOT_BLOCK; block < s.size; block++) {
                 if (s.at(MEMORY, MAP, block) == 0) {
                     return block;
                 }
@@ -1438,7 +1439,7 @@ public final class RolledBack {
 
         static int leakedBlocks(State s, int where) {
             int pointed = pointedBlocks(s, where, reachedNodes(s, where));
-            return usedBlocks(s, where) & ~pointed & -1 << FIRST_FREE;
+            return usedBlocks(s, where) & ~pointed & -1 << ROOT_BLOCK;
         }
 
         static int brokenEntries(State s, int where) {
