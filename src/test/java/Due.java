@@ -5,6 +5,8 @@ import java.lang.reflect.Method;
 final class Due {
     private static int wrong;
     private static int right;
+    /** The test that runs, told ahead of each wrong answer; empty without. */
+    private static String test = "";
 
     private Due() { }
 
@@ -36,8 +38,16 @@ final class Due {
             right++;
         } else {
             wrong++;
-            System.out.println(what + " answered " + got + ", due is " + want);
+            System.out.println(test + what + " answered " + got + ", due is " + want);
         }
+    }
+
+    static void begin(String name) {
+        test = name + ": ";
+    }
+
+    static void endOne() {
+        test = "";
     }
 
     static void call(RolledBack x, Object want, String call, int... args) {
@@ -77,6 +87,51 @@ final class Due {
     static void fault(RolledBack x, String call, String text, int want, int place) {
         text(x, call, text, want);
         equal("fault() behind " + call + " of '" + text + "'", x.fault(), place);
+    }
+
+    /** A new object with such a store. */
+    static RolledBack made(String store) {
+        RolledBack x = new RolledBack();
+        feed(x, store);
+        equal("store of '" + store + "' is one", x.store(store.length()) > 0, true);
+        return x;
+    }
+
+    /** The changes that are UNSAFE, as "block.place was>puts needs" each. */
+    static void changes(RolledBack x, String... want) {
+        call(x, want.length, "told", 1);
+        for (int k = 0; k < want.length; k++) {
+            String got = answer(x, "change", k, 0) + "." + answer(x, "change", k, 1) + " "
+                + answer(x, "change", k, 2) + ">" + answer(x, "change", k, 3) + " "
+                + answer(x, "change", k, 4);
+            equal("change " + k, got, want[k]);
+        }
+    }
+
+    /** All that a work changes, as one text. */
+    static String seen(RolledBack x) {
+        StringBuilder text = new StringBuilder();
+        for (int what : new int[] {0, 1, 2, 3, 4, 5, 6, 9}) {
+            text.append(x.told(what)).append(' ');
+        }
+        for (int k = 0; k < x.told(0) * 16; k++) {
+            text.append(x.peek(k / 16, k % 16, 0)).append(' ').append(x.peek(k / 16, k % 16, 1)).append(' ');
+            text.append(x.copy(k / 16, k % 16)).append(' ');
+        }
+        for (int k = 0; k < x.told(1) * 6; k++) {
+            text.append(x.change(k / 6, k % 6)).append(' ');
+        }
+        text.append(x.settle()).append(' ').append(x.finds()).append(' ').append(x.sweeps());
+        return text.toString();
+    }
+
+    /** A step that is refused: it is counted as such, and nothing is changed by it. */
+    static void refused(RolledBack x, String step) {
+        String before = seen(x);
+        work(x, step, 0);
+        equal("told(8) behind '" + step + "'", x.told(8), 1);
+        equal("what is seen behind '" + step + "'", seen(x), before);
+        x.undo();
     }
 
     static int wrongSoFar() {

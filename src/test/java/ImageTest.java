@@ -1,36 +1,19 @@
 /** Promises 7, 8 and 35 to 38: undo, images, and what is counted. */
 public final class ImageTest {
-    /** All that a work changes, as one text. */
-    private static String all(RolledBack x) {
-        StringBuilder text = new StringBuilder();
-        for (int what : new int[] {0, 1, 2, 3, 4, 5, 6, 9}) {
-            text.append(x.told(what)).append(' ');
-        }
-        for (int k = 0; k < x.told(0) * 16; k++) {
-            text.append(x.peek(k / 16, k % 16, 0)).append(' ').append(x.peek(k / 16, k % 16, 1)).append(' ');
-            text.append(x.copy(k / 16, k % 16)).append(' ');
-        }
-        for (int k = 0; k < x.told(1) * 6; k++) {
-            text.append(x.change(k / 6, k % 6)).append(' ');
-        }
-        text.append(x.settle()).append(' ').append(x.finds()).append(' ').append(x.sweeps());
-        return text.toString();
-    }
-
     private static void undoes() {
         RolledBack x = new RolledBack();
         String[] texts = {"make 0 1;grow 1 5;", "", "write 0;write 1;", "sync;drop 0 1;", "write 4;write 1;", "crash;sweep;",
             "dir 0 2;make 2 3;sync;", "crash;"};
         String[] seen = new String[texts.length];
         for (int k = 0; k < texts.length; k++) {
-            seen[k] = all(x);
+            seen[k] = Due.seen(x);
             Due.feed(x, texts[k]);
             x.work(texts[k].length());
             Due.call(x, k + 1, "count", 2);
         }
         for (int k = texts.length - 1; k >= 0; k--) {
             Due.call(x, k, "undo");
-            Due.equal("the state ahead of work " + k, all(x), seen[k]);
+            Due.equal("the state ahead of work " + k, Due.seen(x), seen[k]);
         }
         Due.call(x, -1, "undo");
         // A text with a fault is no work.
@@ -72,11 +55,11 @@ public final class ImageTest {
         RolledBack x = new RolledBack();
         Due.work(x, "make 0 1;write 4;", 2);
         Due.work(x, "drop 0 1;", 1);
-        String first = all(x);
+        String first = Due.seen(x);
         Due.call(x, 1, "image");
         Due.work(x, "sync;crash;", 2);
         Due.work(x, "make 0 2;", 1);
-        String second = all(x);
+        String second = Due.seen(x);
         Due.call(x, 2, "image");
         Due.call(x, 3, "undo");
         Due.call(x, 2, "undo");
@@ -89,10 +72,10 @@ public final class ImageTest {
         Due.call(x, 1, "count", 2);
         Due.call(x, 0, "undo");
         Due.call(x, 1, "restore");
-        Due.equal("the second image", all(x), second);
+        Due.equal("the second image", Due.seen(x), second);
         Due.call(x, 4, "count", 2);
         Due.call(x, 0, "restore");
-        Due.equal("the first image", all(x), first);
+        Due.equal("the first image", Due.seen(x), first);
         Due.call(x, 2, "count", 2);
         Due.call(x, -1, "restore");
         Due.call(x, 1, "undo");
@@ -163,7 +146,7 @@ public final class ImageTest {
         RolledBack x = new RolledBack();
         Due.work(x, "make 0 1;grow 1 5;dir 0 2;write 0;write 1;drop 0 1;", 6);
         Due.book(x, "0 0;", 1);
-        String before = all(x);
+        String before = Due.seen(x);
         x.fewest();
         x.spill(0);
         x.spill(1);
@@ -180,7 +163,7 @@ public final class ImageTest {
             x.held(k);
             x.waits(k);
         }
-        Due.equal("the state behind what was asked", all(x), before);
+        Due.equal("the state behind what was asked", Due.seen(x), before);
         Due.call(x, 1, "count", 2);
         Due.call(x, 0, "told", 8);
         Due.call(x, 1, "told", 7);

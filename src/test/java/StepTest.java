@@ -1,58 +1,39 @@
 /** Promises 4 and 18: each step, the changes it makes and what these need, and when it is refused. */
 public final class StepTest {
-    /** The changes of a work as "block.place was>puts needs" each. */
-    private static void changes(RolledBack x, String... want) {
-        Due.call(x, want.length, "told", 1);
-        for (int k = 0; k < want.length; k++) {
-            String got = Due.answer(x, "change", k, 0) + "." + Due.answer(x, "change", k, 1) + " "
-                + Due.answer(x, "change", k, 2) + ">" + Due.answer(x, "change", k, 3) + " "
-                + Due.answer(x, "change", k, 4);
-            Due.equal("change " + k, got, want[k]);
-        }
-    }
-
-    private static void refused(RolledBack x, String step) {
-        int before = x.told(9);
-        Due.work(x, step, 0);
-        Due.call(x, 1, "told", 8);
-        Due.call(x, before, "told", 9);
-        x.undo();
-    }
-
     private static void makes() {
         RolledBack x = new RolledBack();
         Due.work(x, "make 0 7;", 1);
-        changes(x, "1.4 0>1 0", "1.5 0>1 0", "4.1 0>1 0", "4.0 0>7 3");
-        refused(x, "make 0 7;");
-        refused(x, "make 1 8;");
-        refused(x, "make 2 8;");
+        Due.changes(x, "1.4 0>1 0", "1.5 0>1 0", "4.1 0>1 0", "4.0 0>7 3");
+        Due.refused(x, "make 0 7;");
+        Due.refused(x, "make 1 8;");
+        Due.refused(x, "make 2 8;");
         Due.work(x, "sync;drop 0 7;make 0 8;", 3);
-        changes(x, "4.0 7>0 0", "1.8 0>1 0", "1.9 0>1 0", "4.1 1>2 1", "4.0 0>8 3");
+        Due.changes(x, "4.0 7>0 0", "1.8 0>1 0", "1.9 0>1 0", "4.1 1>2 1", "4.0 0>8 3");
         // By a WIPE no byte NAME is changed, so NODE needs nothing.
         x = new RolledBack();
         Due.store(x, "make 0 1;grow 1 9;", 16);
         Due.work(x, "cut 1;write 1;write 0;dir 0 2;make 2 3;", 5);
-        changes(x, "1.8 0>1 0", "1.9 0>2 0", "0.5 0>1 0", "5.16 9>0 0", "1.10 0>5 2", "4.3 0>2 0",
+        Due.changes(x, "1.8 0>1 0", "1.9 0>2 0", "0.5 0>1 0", "5.16 9>0 0", "1.10 0>5 2", "4.3 0>2 0",
             "4.2 0>2 4", "1.12 0>1 0", "1.13 0>1 0", "5.1 0>3 0", "5.0 0>3 3");
         // The byte NODE is there already: it is not made, and not needed.
         x = new RolledBack();
         Due.store(x, "make 0 1;", 16);
         Due.work(x, "drop 0 1;write 4;write 1;make 0 2;", 4);
-        changes(x, "1.4 0>1 0", "1.5 0>1 0", "4.0 0>2 2");
+        Due.changes(x, "1.4 0>1 0", "1.5 0>1 0", "4.0 0>2 2");
     }
 
     private static void makesUntilFull() {
         RolledBack x = new RolledBack();
         Due.store(x, "make 0 1;make 0 2;make 0 3;make 0 4;make 0 5;make 0 6;make 0 7;make 0 8;", 16);
         Due.call(x, 0, "room", 0);
-        refused(x, "make 0 9;");
-        refused(x, "dir 0 9;");
-        refused(x, "link 0 9 1;");
+        Due.refused(x, "make 0 9;");
+        Due.refused(x, "dir 0 9;");
+        Due.refused(x, "link 0 9 1;");
         Due.work(x, "grow 0 5;sync;make 0 9;make 0 10;make 0 11;sync;", 6);
         Due.call(x, 5, "room", 0);
         Due.call(x, 11, "find", 0, 11, 1);
-        refused(x, "make 0 12;");
-        refused(x, "dir 0 12;");
+        Due.refused(x, "make 0 12;");
+        Due.refused(x, "dir 0 12;");
         Due.work(x, "link 0 12 11;", 1);
         // The first free entry is taken, of FIRST ahead of SECOND; the least node.
         Due.work(x, "drop 0 3;write 4;write 1;make 0 99;", 4);
@@ -63,12 +44,12 @@ public final class StepTest {
     private static void directories() {
         RolledBack x = new RolledBack();
         Due.work(x, "dir 0 3;", 1);
-        changes(x, "1.4 0>1 0", "1.5 0>2 0", "0.5 0>1 0", "1.6 0>5 1", "4.1 0>1 0", "4.0 0>3 4");
+        Due.changes(x, "1.4 0>1 0", "1.5 0>2 0", "0.5 0>1 0", "1.6 0>5 1", "4.1 0>1 0", "4.0 0>3 4");
         // No WIPE is made, but the block has UNSAFE changes: FIRST needs them all.
         x = new RolledBack();
         Due.store(x, "make 0 1;grow 1 0;", 16);
         Due.work(x, "put 1 0 5;put 1 0 0;cut 1;write 1;dir 0 2;", 5);
-        changes(x, "5.0 0>5 0", "5.0 5>0 0", "0.5 1>0 0", "1.8 0>1 0", "1.9 0>2 0", "0.5 0>1 0",
+        Due.changes(x, "5.0 0>5 0", "5.0 5>0 0", "0.5 1>0 0", "1.8 0>1 0", "1.9 0>2 0", "0.5 0>1 0",
             "1.10 0>5 3", "4.3 0>2 0", "4.2 0>2 4");
         Due.call(x, 33, "waits", 1);
         Due.call(x, 1, "held", 1);
@@ -84,10 +65,10 @@ public final class StepTest {
         x.undo();
         x.undo();
         Due.work(x, "write 5;", 1);
-        changes(x, "0.5 1>0 0", "1.8 0>1 0", "1.9 0>2 0", "0.5 0>1 0", "1.10 0>5 1", "4.3 0>2 0", "4.2 0>2 4");
+        Due.changes(x, "0.5 1>0 0", "1.8 0>1 0", "1.9 0>2 0", "0.5 0>1 0", "1.10 0>5 1", "4.3 0>2 0", "4.2 0>2 4");
         Due.store(x, "size 6;make 0 1;grow 1 0;", 6);
-        refused(x, "dir 0 2;");
-        refused(x, "grow 1 0;");
+        Due.refused(x, "dir 0 2;");
+        Due.refused(x, "grow 1 0;");
         Due.store(x, "dir 0 1;dir 1 1;dir 2 1;", 16);
         Due.call(x, 4, "deep", 0, 0);
         Due.call(x, 3, "under", 0, 1);
@@ -97,20 +78,20 @@ public final class StepTest {
         Due.call(x, 0, "undo");
         // What is not REACHED any more is no place for a new name, though it has LINKS.
         Due.work(x, "drop 2 1;", 1);
-        refused(x, "make 3 5;");
-        refused(x, "dir 3 5;");
-        refused(x, "drop 3 5;");
+        Due.refused(x, "make 3 5;");
+        Due.refused(x, "dir 3 5;");
+        Due.refused(x, "drop 3 5;");
         Due.call(x, 1, "node", 3, 0, 0);
     }
 
     private static void links() {
         RolledBack x = new RolledBack();
         Due.work(x, "make 0 1;link 0 2 1;", 2);
-        changes(x, "1.4 0>1 0", "1.5 0>1 0", "4.1 0>1 0", "4.0 0>1 3", "1.4 1>2 0", "4.3 0>1 0", "4.2 0>2 2");
-        refused(x, "link 0 2 1;");
-        refused(x, "link 0 3 0;");
-        refused(x, "link 0 3 2;");
-        refused(x, "link 1 3 1;");
+        Due.changes(x, "1.4 0>1 0", "1.5 0>1 0", "4.1 0>1 0", "4.0 0>1 3", "1.4 1>2 0", "4.3 0>1 0", "4.2 0>2 2");
+        Due.refused(x, "link 0 2 1;");
+        Due.refused(x, "link 0 3 0;");
+        Due.refused(x, "link 0 3 2;");
+        Due.refused(x, "link 1 3 1;");
         x = new RolledBack();
         Due.store(x, "dir 0 1;make 0 2;link 0 3 2;link 0 4 2;link 0 5 2;link 0 6 2;link 0 7 2;link 0 8 2;"
             + "link 1 1 2;", 16);
@@ -120,7 +101,7 @@ public final class StepTest {
         // A file that is let go of, but not LESSENED yet, can be linked.
         Due.store(x, "make 0 1;", 16);
         Due.work(x, "drop 0 1;link 0 2 1;", 2);
-        changes(x, "4.0 1>0 0", "1.4 1>2 0", "4.0 0>2 1");
+        Due.changes(x, "4.0 1>0 0", "1.4 1>2 0", "4.0 0>2 1");
         Due.work(x, "sync;sync;", 2);
         Due.call(x, 1, "node", 1, 0, 1);
         Due.call(x, 1, "find", 0, 2, 1);
@@ -128,11 +109,11 @@ public final class StepTest {
 
     private static void growsAndPuts() {
         RolledBack x = new RolledBack();
-        refused(x, "grow 1 5;");
+        Due.refused(x, "grow 1 5;");
         Due.work(x, "make 0 1;grow 1 5;grow 1 6;", 3);
-        changes(x, "1.4 0>1 0", "1.5 0>1 0", "4.1 0>1 0", "4.0 0>1 3", "0.5 0>1 0", "5.16 0>5 0", "1.6 0>5 2",
+        Due.changes(x, "1.4 0>1 0", "1.5 0>1 0", "4.1 0>1 0", "4.0 0>1 3", "0.5 0>1 0", "5.16 0>5 0", "1.6 0>5 2",
             "0.6 0>1 0", "6.16 0>6 0", "1.7 0>6 2");
-        refused(x, "grow 1 7;");
+        Due.refused(x, "grow 1 7;");
         Due.work(x, "put 1 0 1;put 1 15 2;put 1 16 3;put 1 31 4;", 4);
         Due.call(x, 1, "peek", 5, 0, 0);
         Due.call(x, 2, "peek", 5, 15, 0);
@@ -140,63 +121,63 @@ public final class StepTest {
         Due.call(x, 4, "peek", 6, 15, 0);
         Due.call(x, 0, "change", 10, 4);
         Due.call(x, 5, "change", 10, 2);
-        refused(x, "put 1 16 3;");
-        refused(x, "put 0 0 1;");
-        refused(x, "put 2 0 1;");
+        Due.refused(x, "put 1 16 3;");
+        Due.refused(x, "put 0 0 1;");
+        Due.refused(x, "put 2 0 1;");
         Due.work(x, "grow 0 9;", 1);
         Due.call(x, 0, "peek", 7, 0, 0);
         Due.call(x, 7, "node", 0, 3, 0);
-        refused(x, "grow 0 0;");
+        Due.refused(x, "grow 0 0;");
     }
 
     private static void cuts() {
         RolledBack x = new RolledBack();
         Due.store(x, "make 0 1;grow 1 5;grow 1 6;", 16);
-        refused(x, "cut 0;");
-        refused(x, "cut 2;");
-        refused(x, "put 1 0 5;");
+        Due.refused(x, "cut 0;");
+        Due.refused(x, "cut 2;");
+        Due.refused(x, "put 1 0 5;");
         Due.work(x, "cut 1;", 1);
-        changes(x, "1.7 6>0 0");
+        Due.changes(x, "1.7 6>0 0");
         Due.call(x, 1, "told", 2);
         Due.call(x, 127, "used", 0);
-        refused(x, "put 1 16 1;");
+        Due.refused(x, "put 1 16 1;");
         Due.work(x, "cut 1;", 1);
-        changes(x, "1.7 6>0 0", "1.6 5>0 0");
+        Due.changes(x, "1.7 6>0 0", "1.6 5>0 0");
         Due.call(x, 2, "told", 2);
-        refused(x, "cut 1;");
+        Due.refused(x, "cut 1;");
         Due.work(x, "write 1;", 1);
-        changes(x, "0.6 1>0 0", "0.5 1>0 0");
+        Due.changes(x, "0.6 1>0 0", "0.5 1>0 0");
         Due.call(x, 0, "told", 2);
         Due.call(x, 31, "used", 0);
         Due.call(x, 127, "used", 1);
         // Its bytes stay; FIRST is taken again.
         Due.work(x, "grow 1 5;", 1);
-        changes(x, "0.6 1>0 0", "0.5 1>0 0", "0.5 0>1 0", "1.6 0>5 1");
+        Due.changes(x, "0.6 1>0 0", "0.5 1>0 0", "0.5 0>1 0", "1.6 0>5 1");
     }
 
     private static void drops() {
         RolledBack x = new RolledBack();
         Due.store(x, "dir 0 1;make 1 2;grow 2 7;grow 2 8;link 0 3 2;", 16);
-        refused(x, "drop 0 1;");
-        refused(x, "drop 0 2;");
-        refused(x, "drop 2 2;");
-        refused(x, "drop 3 2;");
+        Due.refused(x, "drop 0 1;");
+        Due.refused(x, "drop 0 2;");
+        Due.refused(x, "drop 2 2;");
+        Due.refused(x, "drop 3 2;");
         Due.work(x, "drop 0 3;", 1);
-        changes(x, "4.2 3>0 0");
+        Due.changes(x, "4.2 3>0 0");
         Due.call(x, 1, "told", 2);
         Due.call(x, 2, "node", 2, 0, 0);
         Due.work(x, "write 4;", 1);
-        changes(x, "1.8 2>1 0");
+        Due.changes(x, "1.8 2>1 0");
         Due.work(x, "drop 1 2;drop 0 1;write 5;", 3);
         // LESSENED to 0: TAG, FIRST, SECOND; both blocks are freed behind that.
-        changes(x, "1.8 2>1 0", "4.0 1>0 0", "1.8 1>0 0", "1.9 1>0 0", "1.10 6>0 0", "1.11 7>0 0");
+        Due.changes(x, "1.8 2>1 0", "4.0 1>0 0", "1.8 1>0 0", "1.9 1>0 0", "1.10 6>0 0", "1.11 7>0 0");
         Due.call(x, 3, "told", 2);
         Due.work(x, "write 4;", 1);
-        changes(x, "1.8 2>1 0", "1.8 1>0 0", "1.9 1>0 0", "1.10 6>0 0", "1.11 7>0 0",
+        Due.changes(x, "1.8 2>1 0", "1.8 1>0 0", "1.9 1>0 0", "1.10 6>0 0", "1.11 7>0 0",
             "1.4 1>0 0", "1.5 2>0 0", "1.6 5>0 0");
         Due.work(x, "write 1;", 1);
         // In the order in which they were put off.
-        changes(x, "0.6 1>0 0", "0.7 1>0 0", "0.5 1>0 0");
+        Due.changes(x, "0.6 1>0 0", "0.7 1>0 0", "0.5 1>0 0");
         Due.call(x, 0, "told", 2);
         Due.call(x, 255, "used", 1);
         Due.work(x, "write 0;", 1);
@@ -214,7 +195,7 @@ public final class StepTest {
         Due.call(x, "NullPointerException", "change", 65, 0);
         for (String step : new String[] {"make 0 6;", "dir 0 6;", "link 0 6 1;", "grow 2 0;", "put 1 0 9;", "cut 1;",
             "drop 0 1;", "sweep;"}) {
-            refused(x, step);
+            Due.refused(x, step);
         }
         Due.work(x, "write 5;crash;make 0 6;", 3);
         Due.call(x, 4, "told", 1);
@@ -249,7 +230,7 @@ public final class StepTest {
         Due.call(x, 30, "told", 2);
         Due.call(x, 30, "told", 1);
         for (String step : new String[] {"make 0 9;", "dir 0 9;", "link 0 9 3;", "grow 3 0;", "drop 1 16;", "sweep;"}) {
-            refused(x, step);
+            Due.refused(x, step);
         }
         Due.call(x, -1, "finds");
         Due.work(x, "write 5;make 0 9;", 2);

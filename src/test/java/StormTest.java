@@ -30,7 +30,7 @@ public final class StormTest {
     }
 
     /** The same steps as works, behind which everything is taken back. */
-    private static int[] worked(RolledBack x, int from, int many, int q) {
+    static int[] worked(RolledBack x, int from, int many, int q) {
         seed = from & 0xffffffffL;
         int before = x.told(4);
         StringBuilder text = new StringBuilder();
