@@ -119,31 +119,25 @@ public final class AskTest {
     }
 
     /** Nothing that can be done breaks a side, so its bytes are put here from outside. */
-    private static void brokenByHand() throws ReflectiveOperationException {
+    private static void brokenByHand() {
         RolledBack x = new RolledBack();
         Due.store(x, "dir 0 1;make 1 2;grow 2 5;grow 2 6;make 0 3;grow 3 7;", 16);
-        java.lang.reflect.Field now = RolledBack.class.getDeclaredField("now");
-        now.setAccessible(true);
-        java.lang.reflect.Field bytes = now.get(x).getClass().getDeclaredField("bytes");
-        bytes.setAccessible(true);
-        byte[] both = (byte[]) bytes.get(now.get(x));
         for (int where = 0; where < 2; where++) {
-            int from = 256 * where;
             Due.call(x, 0, "broken", where);
-            both[from + 6] = 0;
+            Inside.setByte(x, where, 0, 6, 0);
             Due.call(x, 1, "broken", where);
-            both[from + 16 + 12 + 3] = 6;
+            Inside.setByte(x, where, 1, 15, 6);
             Due.call(x, 2, "broken", where);
-            both[from + 16 + 12 + 2] = 7;
+            Inside.setByte(x, where, 1, 14, 7);
             Due.call(x, 3, "broken", where);
             // NODE 2 has no LINKS: its pointers count no more, but its ENTRY does.
-            both[from + 16 + 8] = 0;
+            Inside.setByte(x, where, 1, 8, 0);
             Due.call(x, 2, "broken", where);
-            both[from + 16 + 8] = 1;
-            both[from + 16 + 9] = 0;
+            Inside.setByte(x, where, 1, 8, 1);
+            Inside.setByte(x, where, 1, 9, 0);
             Due.call(x, 4, "broken", where);
             // Its directory is not REACHED.
-            both[from + 4 * 16] = 0;
+            Inside.setByte(x, where, 4, 0, 0);
             Due.call(x, 3, "broken", where);
             Due.call(x, where == 0 ? 0 : 3, "broken", 1);
         }
@@ -189,7 +183,7 @@ public final class AskTest {
         Due.call(x, 17, "status", 3);
     }
 
-    public static void main(String[] args) throws ReflectiveOperationException {
+    public static void main(String[] args) {
         tree();
         chain();
         brokenByHand();

@@ -28,6 +28,7 @@ final class Edge {
     /** The document's parts by the names that tests begin with; empty, if it is not here. */
     private void readDocument() throws IOException {
         if (!Files.exists(DOCUMENT)) {
+            System.out.println("no " + DOCUMENT + " here: what the tests quote is not looked up");
             return;
         }
         for (String chapter : Files.readString(DOCUMENT).split("(?m)^## ")) {

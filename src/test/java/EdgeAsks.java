@@ -153,6 +153,11 @@ final class EdgeAsks {
         // Of a directory that is not REACHED.
         Inside.setByte(x, 0, 4, 0, 0);
         Due.call(x, 0, "broken", 0);
+        // The root is REACHED, whatever else is not; an ENTRY of SECOND counts, too.
+        x = Due.made("make 0 1;make 0 2;make 0 3;make 0 4;make 0 5;make 0 6;make 0 7;make 0 8;grow 0 0;make 0 9;");
+        Inside.setByte(x, 1, 4, 0, 0);
+        Inside.setByte(x, 1, 3, 4, 0);
+        Due.call(x, 1, "broken", 1);
     }
 
     @Says({"how many of FIRST and SECOND, not 0, of NODES with LINKS point to a BLOCK that is not USED,",
@@ -180,6 +185,21 @@ final class EdgeAsks {
             Inside.setByte(x, where, 1, 13, 0);
             Due.call(x, 4, "broken", where);
         }
+    }
+
+    @Says("or to one to which one ahead of them (by NODES, FIRST ahead of SECOND) points; all together.")
+    static void t3_brokenPointersToOneAndTheSameBlock() {
+        RolledBack x = Due.made("make 0 1;grow 1 5;grow 1 6;make 0 2;grow 2 7;");
+        // The root's FIRST is ahead of all; others may stand between.
+        Inside.setByte(x, 1, 1, 10, 4);
+        Due.call(x, 1, "broken", 1);
+        Inside.setByte(x, 1, 1, 10, 5);
+        Due.call(x, 1, "broken", 1);
+        Inside.setByte(x, 1, 1, 11, 5);
+        Due.call(x, 2, "broken", 1);
+        Due.call(x, 0, "broken", 0);
+        Inside.setByte(x, 1, 0, 4, 0);
+        Due.call(x, 3, "broken", 1);
     }
 
     /** So many changes, each in need of the one ahead of it, by turns in the last block and in the one ahead of that. */
@@ -291,6 +311,14 @@ final class EdgeAsks {
         Due.call(x, 0, "fits");
         Due.book(x, "15 0;", 1);
         Due.call(x, 18, "fits");
+        // The MAP, too.
+        x = Due.made("make 0 1;");
+        Due.work(x, "grow 1 5;", 1);
+        Due.call(x, 35, "fits");
+        Due.book(x, "0 1;", 1);
+        Due.call(x, 3, "fits");
+        Due.book(x, "1 1;", 1);
+        Due.call(x, 1, "fits");
     }
 
     @Says({"LOOK: the place in no line by which, whatever is there, fewest of FITS are left at the worst",
@@ -321,6 +349,18 @@ final class EdgeAsks {
         Due.book(x, "15 0;10 0;11 0;12 0;13 0;14 0;", 6);
         Due.call(x, 18, "fits");
         Due.call(x, 1, "look", 0);
+        // One alone FITS: what does not is not left, though it is alike at place 0.
+        Due.book(x, "1 2;", 1);
+        Due.call(x, 2, "fits");
+        Due.call(x, 0, "look", 0);
+        Due.call(x, 1, "look", 1);
+        // The MAP is alike BLOCK 1 at place 0, and not at place 1.
+        x = Due.made("make 0 1;");
+        Due.work(x, "grow 1 5;", 1);
+        Due.book(x, "15 0;", 1);
+        Due.call(x, 3, "fits");
+        Due.call(x, 1, "look", 0);
+        Due.call(x, 1, "look", 1);
     }
 
     // ---- Promise 8
@@ -632,6 +672,10 @@ final class EdgeAsks {
         Due.work(x, "drop 10 1;", 1);
         Due.call(x, 11, "deep", 0, 0);
         Due.call(x, 12, "deep", 0, 1);
+        // In the last ENTRY of SECOND.
+        x = Due.made("grow 0 0;make 0 1;link 0 2 1;link 0 3 1;link 0 4 1;link 0 5 1;link 0 6 1;link 0 7 1;link 0 8 1;link 0 9 1;"
+            + "make 0 10;link 0 11 2;link 0 12 2;link 0 13 2;link 0 14 2;link 0 15 2;dir 0 16;");
+        Due.call(x, 2, "deep", 0, 1);
     }
 
     // ---- Promise 18

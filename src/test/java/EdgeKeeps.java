@@ -11,6 +11,58 @@ final class EdgeKeeps {
         x.work(text.length());
     }
 
+    /** Changes that need all of a block, and things put off until changes that are not the first. */
+    private static RolledBack tangled() {
+        RolledBack x = Due.made("make 0 1;grow 1 0;make 0 2;grow 2 6;make 0 3;");
+        Due.work(x, "put 1 0 5;put 1 0 0;cut 1;write 1;dir 0 4;drop 0 3;cut 2;drop 0 2;", 8);
+        return x;
+    }
+
+    private static void isTangled(RolledBack x) {
+        Due.changes(x, "5.0 0>5 0", "5.0 5>0 0", "0.5 1>0 0", "2.0 0>1 0", "2.1 0>2 0", "0.5 0>1 0", "2.2 0>5 3", "4.7 0>4 0",
+            "4.6 0>4 4", "4.4 3>0 0", "1.10 6>0 0", "4.2 2>0 0");
+        Due.call(x, 33, "waits", 2);
+        Due.call(x, 3, "told", 2);
+        // What is put off is done when its own change goes, and not ahead of that.
+        Due.work(x, "write 1;", 1);
+        Due.call(x, 2, "told", 2);
+        Due.work(x, "write 4;", 1);
+        Due.changes(x, "5.0 0>5 0", "5.0 5>0 0", "0.5 1>0 0", "2.0 0>1 0", "2.1 0>2 0", "0.5 0>1 0", "2.2 0>5 3", "4.6 0>4 3",
+            "0.6 1>0 0", "1.12 1>0 0", "1.13 1>0 0", "1.8 1>0 0", "1.9 1>0 0");
+        Due.call(x, 0, "told", 2);
+        // FIRST needs both changes of BLOCK 5.
+        Due.work(x, "write 0;", 1);
+        Due.call(x, 1, "held", 2);
+        Due.work(x, "write 5;", 1);
+        Due.call(x, 0, "held", 2);
+        for (int k = 0; k < 4; k++) {
+            x.undo();
+        }
+    }
+
+    @Says("The latest WORK that was done (of no STEPS, too) is undone (DISK, too): how many are left;")
+    static void p07_whatIsNeededAndWhatIsPutOffIsUndoneToo() {
+        RolledBack x = tangled();
+        isTangled(x);
+        Due.work(x, "write 5;write 0;make 0 9;grow 1 3;drop 0 1;cut 1;", 6);
+        Due.work(x, "sync;sync;sync;dir 0 8;drop 0 9;", 5);
+        Due.call(x, 2, "undo");
+        Due.call(x, 1, "undo");
+        isTangled(x);
+    }
+
+    @Says("An IMAGE of all that WORK changes, and of WORKS that can be undone: how many there are;")
+    static void p35_whatIsNeededAndWhatIsPutOffIsKeptToo() {
+        RolledBack x = tangled();
+        Due.call(x, 1, "image");
+        Due.work(x, "write 5;write 0;make 0 9;grow 1 3;drop 0 1;cut 1;", 6);
+        Due.call(x, 2, "image");
+        Due.work(x, "sync;sync;sync;dir 0 8;drop 0 9;", 5);
+        Due.call(x, 1, "restore");
+        Due.call(x, 0, "restore");
+        isTangled(x);
+    }
+
     @Says("The latest WORK that was done (of no STEPS, too) is undone (DISK, too): how many are left;")
     static void p07_sixteenWorksOneByOne() {
         RolledBack x = new RolledBack();

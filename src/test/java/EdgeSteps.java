@@ -537,6 +537,12 @@ final class EdgeSteps {
             Due.work(x, "write 4;" + word + " 0 12;" + word + " 0 13;" + word + " 0 14;", 3);
             Due.call(x, 4, "find", 0, 12, 0);
             Due.call(x, 7, "find", 0, 13, 0);
+            // LINKS without TAG, or TAG without LINKS, is none such; that is by no call.
+            x = new RolledBack();
+            Inside.setByte(x, 0, 1, 5, 1);
+            Inside.setByte(x, 0, 1, 8, 1);
+            Due.work(x, word + " 0 5;", 1);
+            Due.call(x, 3, "find", 0, 5, 0);
         }
     }
 
@@ -563,6 +569,10 @@ final class EdgeSteps {
         x = Due.made("make 0 1;");
         Due.work(x, "drop 0 1;link 0 5 1;drop 0 5;make 0 6;", 4);
         Due.changes(x, "4.0 1>0 0", "1.4 1>2 0", "4.0 0>5 1", "4.0 5>0 0", "1.8 0>1 0", "1.9 0>1 0", "4.1 1>2 1", "4.0 0>6 3");
+        // Others that came to DISK do not hide it.
+        x = Due.made("make 0 1;grow 1 5;");
+        Due.work(x, "put 1 0 6;put 1 1 6;put 1 2 6;drop 0 1;write 5;make 0 3;", 6);
+        Due.changes(x, "4.0 1>0 0", "1.8 0>1 0", "1.9 0>1 0", "4.1 1>2 1", "4.0 0>3 3");
         // On DISK by now, it is not needed.
         x = Due.made("make 0 1;");
         Due.work(x, "drop 0 1;write 4;make 0 3;", 3);
@@ -708,6 +718,18 @@ final class EdgeSteps {
         Due.call(x, 33, "waits", 1);
         Due.work(x, "write 0;", 1);
         Due.call(x, 32, "waits", 1);
+        Due.call(x, 1, "held", 1);
+        Due.work(x, "write 5;", 1);
+        Due.call(x, 0, "waits", 1);
+        Due.call(x, 0, "held", 1);
+        // One alone, the first of all that are UNSAFE; and one of another block ahead of it, which is not needed.
+        x = Due.made("make 0 1;grow 1 0;put 1 0 5;make 0 3;grow 2 7;");
+        Due.work(x, "put 1 0 0;put 2 0 8;cut 1;write 1;write 0;dir 0 2;", 6);
+        Due.changes(x, "5.0 5>0 0", "6.0 7>8 0", "1.12 0>1 0", "1.13 0>2 0", "0.5 0>1 0", "1.14 0>5 2", "4.5 0>3 0", "4.4 0>2 4");
+        Due.call(x, 33, "waits", 1);
+        Due.work(x, "write 0;", 1);
+        Due.call(x, 32, "waits", 1);
+        Due.call(x, 1, "change", 4, 4);
         Due.call(x, 1, "held", 1);
         Due.work(x, "write 5;", 1);
         Due.call(x, 0, "waits", 1);
@@ -994,6 +1016,13 @@ final class EdgeSteps {
         x = Due.made("dir 0 1;make 1 2;link 0 3 2;");
         Due.work(x, "drop 1 2;drop 0 1;write 4;crash;sweep;sweep;", 6);
         Due.changes(x, "1.4 1>0 0", "1.5 2>0 0", "1.6 5>0 0", "1.8 2>1 0");
+        // So, too, if it stands behind the NODE that it names.
+        x = Due.made("make 0 1;dir 0 2;link 2 3 1;");
+        Due.work(x, "drop 2 3;drop 0 2;write 4;crash;", 4);
+        Due.call(x, 1, "find", 2, 3, 0);
+        Due.call(x, 1, "finds");
+        Due.work(x, "sweep;", 1);
+        Due.changes(x, "1.4 2>1 0");
         // Nor does an ENTRY without a NAME.
         x = Due.made("make 0 1;");
         Due.work(x, "drop 0 1;write 4;crash;", 3);

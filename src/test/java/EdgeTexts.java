@@ -356,6 +356,12 @@ final class EdgeTexts {
         Due.work(x, "again 1[];".repeat(8), 0);
         Due.work(x, six + "];" + "again 1[crash;];" + "];".repeat(5), 1);
         faulty("work", six + "];" + "again 1[again 1[", -7, 58);
+        // Those open in a text with a fault are not open in the next.
+        Due.fault(x, "work", six + "foo;", -9, 48);
+        Due.fault(x, "work", six + "crash;" + "];".repeat(6), 1, -1);
+        Due.fault(x, "work", "again 1[", -9, 8);
+        Due.fault(x, "work", "]", -9, 0);
+        Due.fault(x, "work", "crash;", 1, -1);
     }
 
     @Says("of one the least.")
@@ -378,6 +384,11 @@ final class EdgeTexts {
         Due.call(x, 0, "peek", 15, 15, 0);
         Due.call(x, "IndexOutOfBoundsException", "peek", 16, 0, 0);
         Due.equal("what is seen", Due.seen(x), Due.seen(Due.made("")));
+        // It has no BOOK: no place is in a line, and all that is DIRTY fits.
+        Due.call(x, 0, "look", 0);
+        Due.call(x, 0, "look", 1);
+        Due.work(x, "make 0 7;", 1);
+        Due.call(x, 18, "fits");
     }
 
     @Says("Twenty bytes come on the TAPE, of each number the highest first: how many there are;")

@@ -311,6 +311,19 @@ public final class ModelTest {
         }
     }
 
+    /**
+     * Each directory names one that takes the block of the directory ahead of it, and is then let go of
+     * with that name held back: so each waits for the one ahead of it, and SETTLE takes many rounds.
+     */
+    private void chain(int links) {
+        text("store", "dir 0 1;dir 0 2;dir 0 3;dir 0 4;dir 0 5;dir 0 6;dir 0 7;make 0 8;grow 8 9;", 601);
+        text("work", "cut 8;write 3;", 151);
+        for (int d = 1; d <= links; d++) {
+            text("work", "dir " + d + " 1;drop " + d + " 1;drop 0 " + d + ";write 4;write 1;write 2;"
+                + (below(2) == 0 ? "write 0;" : ""), 151);
+        }
+    }
+
     private void run() {
         int start = below(6);
         if (start < 2) {
@@ -320,6 +333,8 @@ public final class ModelTest {
             text("store", "make 0 91;link 0 92 1;link 0 93 1;link 0 94 1;link 0 95 1;link 0 96 1;dir 0 97;dir 0 98;"
                 + "grow 1 9;grow 1 9;", 601);
             text("work", "cut 1;cut 1;write 1;write 0;grow 0 0;" + fitted(steps(6, 0), 100), 151);
+        } else if (start == 3) {
+            chain(1 + below(7));
         }
         while (told.size() < CALLS && !wrong) {
             int drawn = below(100);
