@@ -99,6 +99,8 @@ public final class RolledBack {
     private final Reader reader = new Reader();
     private final int[] book = new int[ROW];
     private final byte[] copies = new byte[SIDE];
+    /** What was found for each directory in one walk through a tree. */
+    private final int[] known = new int[NODES];
     private final int[] refused = new int[4];
     private int imageCount;
     private int tapeLength;
@@ -325,13 +327,21 @@ public final class RolledBack {
     public int under(int node, int where) throws NoSuchElementException, IllegalArgumentException {
         testNode(node);
         testWhere(where);
-        return Tree.countUnder(now, where, node, 0);
+        forgetKnown();
+        return Tree.countUnder(now, where, node, known, 0);
     }
 
     public int deep(int node, int where) throws NoSuchElementException, IllegalArgumentException {
         testNode(node);
         testWhere(where);
-        return Tree.depthOf(now, where, node, 0);
+        forgetKnown();
+        return Tree.depthOf(now, where, node, known, 0);
+    }
+
+    private void forgetKnown() {
+        for (int k = 0; k < NODES; k++) {
+            known[k] = NONE;
+        }
     }
 
     public int room(int node) throws NoSuchElementException {
@@ -1484,29 +1494,43 @@ public final class RolledBack {
             return NONE;
         }
 
-        /** A directory is younger than the one that holds it, so a path is no longer than NODES. */
-        static int countUnder(State s, int where, int directory, int depth) {
+        /**
+         * A directory is younger than the one that holds it, so a path is no longer than NODES. But one
+         * that is lost may name another many times, that one a third, and so on: each is walked once.
+         */
+        static int countUnder(State s, int where, int directory, int[] known, int depth) {
+            if (directory < 0 || directory >= known.length || depth >= NODES) {
+                return 0;
+            }
+            if (known[directory] != NONE) {
+                return known[directory];
+            }
             int many = 0;
-            for (int k = 0; k < 2 * ENTRIES && depth < NODES; k++) {
+            for (int k = 0; k < 2 * ENTRIES; k++) {
                 int node = namedAt(s, where, directory, k);
                 if (node != NONE) {
-                    many += 1 + countUnder(s, where, node, depth + 1);
+                    many += 1 + countUnder(s, where, node, known, depth + 1);
                 }
             }
+            known[directory] = many;
             return many;
         }
 
-        static int depthOf(State s, int where, int directory, int depth) {
-            if (!s.isDirectory(where, directory)) {
+        static int depthOf(State s, int where, int directory, int[] known, int depth) {
+            if (!s.isDirectory(where, directory) || directory >= known.length || depth >= NODES) {
                 return 0;
             }
+            if (known[directory] != NONE) {
+                return known[directory];
+            }
             int deepest = 0;
-            for (int k = 0; k < 2 * ENTRIES && depth < NODES; k++) {
+            for (int k = 0; k < 2 * ENTRIES; k++) {
                 int node = namedAt(s, where, directory, k);
                 if (node != NONE) {
-                    deepest = Math.max(deepest, depthOf(s, where, node, depth + 1));
+                    deepest = Math.max(deepest, depthOf(s, where, node, known, depth + 1));
                 }
             }
+            known[directory] = 1 + deepest;
             return 1 + deepest;
         }
 

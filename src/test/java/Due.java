@@ -3,6 +3,10 @@ import java.lang.reflect.Method;
 
 /** What the tests share: a call by its name, its answer or the exception that it throws, and the tally. */
 final class Due {
+    /** The store that losingWorks begin with. */
+    static final String TEN_FILES = "grow 0 0;make 0 1;make 0 2;make 0 3;make 0 4;make 0 5;make 0 6;make 0 7;make 0 8;"
+        + "make 0 9;make 0 10;";
+
     private static int wrong;
     private static int right;
     /** The test that runs, told ahead of each wrong answer; empty without. */
@@ -132,6 +136,35 @@ final class Due {
         equal("told(8) behind '" + step + "'", x.told(8), 1);
         equal("what is seen behind '" + step + "'", seen(x), before);
         x.undo();
+    }
+
+    /** Works that leave directories behind them, each lost on DISK, and naming the next one many times. */
+    static String[] losingWorks(int levels, int links) {
+        String[] texts = new String[levels];
+        for (int level = 0; level < levels; level++) {
+            int directory = 11 - level;
+            int file = directory - 1;
+            StringBuilder text = new StringBuilder("dir0 99;");
+            for (int name = 1; name <= links; name++) {
+                text.append("link").append(directory).append(' ').append(name).append(' ').append(file).append(';');
+            }
+            // The file's own name is gone on DISK, and the directory's never comes there.
+            text.append("drop0 ").append(file).append(";write").append(file <= 8 ? 4 : 5).append(";write0;");
+            text.append("write").append(1 + file / 4).append(';');
+            if (file / 4 != directory / 4) {
+                text.append("write").append(1 + directory / 4).append(';');
+            }
+            // Its node is free behind the sweep, so the next directory is that one.
+            texts[level] = text.append("write").append(6 + level).append(";crash;sweep;sync;").toString();
+        }
+        return texts;
+    }
+
+    static void lostDirectories(RolledBack x, int levels, int links) {
+        store(x, TEN_FILES, 16);
+        for (String text : losingWorks(levels, links)) {
+            text(x, "work", text, text.split(";").length);
+        }
     }
 
     static int wrongSoFar() {

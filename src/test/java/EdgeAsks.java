@@ -651,6 +651,25 @@ final class EdgeAsks {
         Due.call(x, 16, "under", 0, 1);
     }
 
+    @Says("one as often as it is named")
+    static void p16_underLostDirectoriesThatNameOneAnotherManyTimes() {
+        RolledBack x = new RolledBack();
+        Due.lostDirectories(x, 10, 7);
+        Due.call(x, 0b111111111100, "lost", 1);
+        long begin = System.nanoTime();
+        for (int where = 0; where < 2; where++) {
+            int under = 0;
+            for (int node = 2; node < 12; node++) {
+                under = 7 * (1 + under);
+                Due.call(x, under, "under", node, where);
+                Due.call(x, node - 1, "deep", node, where);
+            }
+            Due.call(x, 329554456, "under", 11, where);
+        }
+        // Walked name by name, these are 300 million steps a call; so that each call ends, none may be taken twice.
+        Due.equal("under and deep end soon", (System.nanoTime() - begin) / 1_000_000_000 < 5, true);
+    }
+
     @Says({"How deep directories lie in a directory: 0 no directory with LINKS, 1 none in it, 2 such a one in it, and so on."})
     static void p17_deepOfNoneOfOneAndOfAll() {
         RolledBack x = new RolledBack();

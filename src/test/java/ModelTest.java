@@ -325,7 +325,7 @@ public final class ModelTest {
     }
 
     private void run() {
-        int start = below(6);
+        int start = below(7);
         if (start < 2) {
             text("store", fullStore(), 601);
         } else if (start == 2) {
@@ -335,6 +335,11 @@ public final class ModelTest {
             text("work", "cut 1;cut 1;write 1;write 0;grow 0 0;" + fitted(steps(6, 0), 100), 151);
         } else if (start == 3) {
             chain(1 + below(7));
+        } else if (start == 4) {
+            text("store", Due.TEN_FILES, 601);
+            for (String work : Due.losingWorks(1 + below(6), 1 + below(3))) {
+                text("work", work, 151);
+            }
         }
         while (told.size() < CALLS && !wrong) {
             int drawn = below(100);
